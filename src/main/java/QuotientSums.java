@@ -1239,7 +1239,7 @@ public final class QuotientSums {
     /** The least primes of numbers; the row grows as it is needed. */
     private static final class Sieve {
         /** 0 for primes. */
-        private int[] least = new int[2];
+        int[] least = new int[2];
 
         void reach(int x) {
             if (x < least.length || x > MOST_BOUND) {
@@ -1265,12 +1265,17 @@ public final class QuotientSums {
 
         /** Of a number 2 or more that has been reached. */
         int leastPrime(int n) {
-            return n < 0 || n >= least.length || least[n] == 0 ? Math.max(n, 2) : least[n];
+            int found = n < 0 || n >= least.length ? 0 : least[n];
+            if (found > 1) {
+                return found;
+            }
+            return n > 1 ? n : 2;
         }
 
         boolean isSmooth(int n, int y) {
             int rest = n;
-            for (int i = 0; i < MOST_POWER && rest > 1; i++) {
+            // Once what is left is no more than y, so are its primes.
+            for (int i = 0; i < MOST_POWER && rest > 1 && rest > y; i++) {
                 int p = leastPrime(rest);
                 if (p > y) {
                     return false;
@@ -1410,7 +1415,7 @@ public final class QuotientSums {
 
     /** The SUMS of one FUNCTION by one MODULUS; VALUES are told from two SUMS next to each other. */
     private static final class Row {
-        private int[] sums = new int[2];
+        int[] sums = new int[2];
         int function = NONE;
         int modulus;
         int filled;
@@ -1430,14 +1435,23 @@ public final class QuotientSums {
             }
         }
 
-        boolean hasRoom() {
-            return filled + 1 < sums.length;
+        void append(int next) {
+            if (filled >= 0 && filled + 1 < sums.length) {
+                int together = sums[filled] + next;
+                filled++;
+                sums[filled] = together >= modulus ? together - modulus : together;
+            }
         }
 
-        void append(int next) {
-            int together = sums[filled] + next;
-            filled++;
-            sums[filled] = together >= modulus ? together - modulus : together;
+        /** The next VALUE is the product of what is at two places 1 on that are filled. */
+        void appendProduct(int a, int b) {
+            if (a < 1 || a > filled || b < 1 || b > filled || modulus < 2) {
+                return;
+            }
+            int one = sums[a] - sums[a - 1];
+            int other = sums[b] - sums[b - 1];
+            int left = (int) ((long) one * other % modulus);
+            append(left < 0 ? left + modulus : left);
         }
 
         int sumTo(int x) {
@@ -1518,18 +1532,25 @@ public final class QuotientSums {
             return oldest;
         }
 
+        /** The dearest loop of the class, so it looks into the rows itself. */
         private void fill(Plan plan, Row row, int x) {
-            for (int n = row.filled + 1; n <= x && row.hasRoom(); n++) {
-                int p = sieve.leastPrime(n);
+            int[] least = sieve.least;
+            int last = Math.min(x, Math.min(row.sums.length, least.length) - 1);
+            for (int n = row.filled + 1; n <= last; n++) {
+                int p = least[n];
+                if (p < 2) {
+                    row.append(powers.valueAtPower(plan, row.function, n, 1));
+                    continue;
+                }
                 int rest = n / p;
                 int k = 1;
                 for (; k < MOST_POWER && rest % p == 0; k++) {
                     rest /= p;
                 }
-                if (rest == 1) {
+                if (rest < 2) {
                     row.append(powers.valueAtPower(plan, row.function, p, k));
                 } else {
-                    row.append(plan.rest((long) row.valueAt(n / rest) * row.valueAt(rest)));
+                    row.appendProduct(n / rest, rest);
                 }
             }
         }
