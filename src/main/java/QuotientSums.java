@@ -37,13 +37,10 @@ public final class QuotientSums {
 
     private Plan now = new Plan();
     private Plan draft = new Plan();
-    private final Tape tape = new Tape();
-    private final Reader reader = new Reader(tape);
+    private final Reader reader = new Reader();
     private final Changes changes = new Changes();
     private final Image image = new Image();
-    private final Sieve sieve = new Sieve();
-    private final Powers powers = new Powers();
-    private final Rows rows = new Rows(sieve, powers);
+    private final Rows rows = new Rows();
     private final Couples couples = new Couples();
 
     public QuotientSums() {
@@ -52,19 +49,19 @@ public final class QuotientSums {
     // ---- the TEXT ----
 
     public int feed(int a, int b, int c, int d, int e) {
-        if (!tape.hasRoom()) {
+        if (!reader.tape.hasRoom()) {
             return NONE;
         }
-        tape.append(a);
-        tape.append(b);
-        tape.append(c);
-        tape.append(d);
-        tape.append(e);
-        return tape.fed;
+        reader.tape.append(a);
+        reader.tape.append(b);
+        reader.tape.append(c);
+        reader.tape.append(d);
+        reader.tape.append(e);
+        return reader.tape.fed;
     }
 
     public int text(int n) {
-        if (n < 0 || n > tape.fed) {
+        if (n < 0 || n > reader.tape.fed) {
             return ABSENT;
         }
         if (!reader.read(n, draft)) {
@@ -163,14 +160,14 @@ public final class QuotientSums {
         if (!now.has(f) || !isPlace(n)) {
             return NONE;
         }
-        return powers.valueAt(now, f, n);
+        return rows.powers.valueAt(now, f, n);
     }
 
     public int atPower(int f, int p, int k) {
         if (!now.has(f) || p < 2 || p > MOST_PRIME || k < 0 || k > MOST_POWER) {
             return NONE;
         }
-        return powers.valueAtPower(now, f, p, k);
+        return rows.powers.valueAtPower(now, f, p, k);
     }
 
     public int sum(int f, int x) {
@@ -191,10 +188,10 @@ public final class QuotientSums {
         if (j < 0 || j > 3 || !isReach(x)) {
             return NONE;
         }
-        sieve.reach(x);
+        rows.sieve.reach(x);
         long total = 0;
         for (int n = 2; n <= x; n++) {
-            if (sieve.leastPrime(n) == n) {
+            if (rows.sieve.leastPrime(n) == n) {
                 total += powerOf(n, j);
             }
         }
@@ -333,7 +330,7 @@ public final class QuotientSums {
             if (signOf(b) != 0) {
                 int most = rootOf(divided(x, b * b * b));
                 for (int a = 1; a <= most; a++) {
-                    total += powers.valueAt(now, f, a * a * b * b * b);
+                    total += rows.powers.valueAt(now, f, a * a * b * b * b);
                 }
             }
         }
@@ -364,9 +361,10 @@ public final class QuotientSums {
             return NONE;
         }
         Row row = rows.upTo(now, f, x);
+        rows.sieve.reach(x);
         long total = 0;
         for (int n = 1; n <= x; n++) {
-            if (sieve.isSmooth(n, y)) {
+            if (rows.sieve.isSmooth(n, y)) {
                 total += row.valueAt(n);
             }
         }
@@ -378,9 +376,10 @@ public final class QuotientSums {
             return NONE;
         }
         Row row = rows.upTo(now, f, x);
+        rows.sieve.reach(x);
         long total = Math.min(x, 1);
         for (int n = 2; n <= x; n++) {
-            if (sieve.leastPrime(n) > y) {
+            if (rows.sieve.leastPrime(n) > y) {
                 total += row.valueAt(n);
             }
         }
@@ -415,9 +414,9 @@ public final class QuotientSums {
             return ABSENT;
         }
         for (int n = 2; n <= now.bound; n++) {
-            sieve.reach(n);
-            int k = sieve.exponent(n);
-            if (k > 0 && doPart(f, g, sieve.leastPrime(n), k)) {
+            rows.sieve.reach(n);
+            int k = rows.sieve.exponent(n);
+            if (k > 0 && doPart(f, g, rows.sieve.leastPrime(n), k)) {
                 return n;
             }
         }
@@ -425,7 +424,7 @@ public final class QuotientSums {
     }
 
     private boolean doPart(int f, int g, int p, int k) {
-        return powers.valueAtPower(now, f, p, k) != powers.valueAtPower(now, g, p, k);
+        return rows.powers.valueAtPower(now, f, p, k) != rows.powers.valueAtPower(now, g, p, k);
     }
 
     public int best(int f, int x, boolean sums) {
@@ -486,7 +485,7 @@ public final class QuotientSums {
             long high = last / 65536 % 32768;
             last = drawAfter(last);
             long drawn = high * 32768 + last / 65536 % 32768;
-            total += powers.valueAt(now, f, placeIn(drawn));
+            total += rows.powers.valueAt(now, f, placeIn(drawn));
         }
         return now.rest(total);
     }
@@ -548,7 +547,7 @@ public final class QuotientSums {
             case 4:
                 return changes.size;
             case 5:
-                return tape.fed;
+                return reader.tape.fed;
             case 6:
                 return lastPrime(now.bound);
             default:
@@ -802,7 +801,7 @@ public final class QuotientSums {
             fed = 0;
             tokens = 0;
             at = 0;
-            while (at < length) {
+            for (int step = 0; step < MOST_BYTES && at < length; step++) {
                 int start = at;
                 if (isBlank()) {
                     at++;
@@ -909,17 +908,13 @@ public final class QuotientSums {
         private static final int TOLD_ALREADY = 3;
         private static final int NOT_THERE = 4;
 
+        final Tape tape = new Tape();
         int lines;
         int faulty;
         int place = NONE;
-        private final Tape tape;
         private Plan plan;
         private int token;
         private int toldOnce;
-
-        Reader(Tape tape) {
-            this.tape = tape;
-        }
 
         /** The plan is of use only if this answers true. */
         boolean read(int n, Plan into) {
@@ -1485,14 +1480,13 @@ public final class QuotientSums {
     /** A few rows of SUMS, used again for whichever FUNCTIONS were asked for last. */
     private static final class Rows {
         private static final int MOST_ROWS = 4;
-        private final Sieve sieve;
-        private final Powers powers;
+        /** Also asked from outside, so that least primes are kept once. */
+        final Sieve sieve = new Sieve();
+        final Powers powers = new Powers();
         private final Row[] rows = new Row[MOST_ROWS];
         private int turn;
 
-        Rows(Sieve sieve, Powers powers) {
-            this.sieve = sieve;
-            this.powers = powers;
+        Rows() {
             for (int i = 0; i < MOST_ROWS; i++) {
                 rows[i] = new Row();
             }
