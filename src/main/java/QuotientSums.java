@@ -966,18 +966,15 @@ public final class QuotientSums {
             return isTellable(tape.contentOf(token)) || refuse(TOO_GREAT);
         }
 
-        private boolean takeName() {
-            token++;
-            return tape.sortOf(token) == Tape.NAME || refuse(NO_TOKEN);
-        }
-
         /** The name of a further FUNCTION, asked for at the word of its LINE; NONE with a FAULT. */
         private int takeNewName() {
             if (plan.isFilled()) {
                 refuse(TOO_GREAT);
                 return NONE;
             }
-            if (!takeName()) {
+            token++;
+            if (tape.sortOf(token) != Tape.NAME) {
+                refuse(NO_TOKEN);
                 return NONE;
             }
             int name = tape.contentOf(token);
@@ -990,7 +987,9 @@ public final class QuotientSums {
 
         /** The number of a FUNCTION that is there; NONE with a FAULT. */
         private int takeFunction() {
-            if (!takeName()) {
+            token++;
+            if (tape.sortOf(token) != Tape.NAME) {
+                refuse(NO_TOKEN);
                 return NONE;
             }
             int f = plan.find(tape.contentOf(token));
