@@ -42,6 +42,7 @@ public final class PromiseTest {
         isWhole();
         chance();
         undo();
+        sumsAfterChanges();
         keepAndBack();
         count();
         Check.finish("PromiseTest");
@@ -665,6 +666,32 @@ public final class PromiseTest {
         due("35: undo stays", q.count(4), 1);
         due("35: undo does not touch it", q.undo(), 0);
         due("36: the later one", q.back(), 44);
+    }
+
+    /** Sums asked for ahead of a change must not be answered behind it. */
+    private static void sumsAfterChanges() {
+        QuotientSums q = Check.told("own f;at f 1 3 0;over g f;");
+        q.keep();
+        due("sum as told", q.sum(6, 3), 7);
+        due("sum of over as told", q.sum(7, 3), M - 5);
+        q.set(6, 1, 5, 0);
+        due("10: sum after set", q.sum(6, 3), 11);
+        due("10: sum of over after set", q.sum(7, 3), M - 9);
+        q.modulus(7);
+        due("9: sum after modulus", q.sum(6, 3), 4);
+        q.undo();
+        due("34: sum after modulus is undone", q.sum(6, 3), 11);
+        q.undo();
+        due("34: sum after set is undone", q.sum(6, 3), 7);
+        q.set(6, 1, 9, 0);
+        due("10: sum after set", q.sum(6, 3), 19);
+        due("10: sum of over after set", q.sum(7, 3), M - 17);
+        q.back();
+        due("36: sum after back", q.sum(6, 3), 7);
+        due("36: sum of over after back", q.sum(7, 3), M - 5);
+        Check.tell(q, "own f;at f 1 4 0;times g f one;");
+        due("3: sum after text", q.sum(6, 3), 9);
+        due("3: sum of times after text", q.sum(7, 3), 11);
     }
 
     private static void count() {
