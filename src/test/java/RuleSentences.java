@@ -135,7 +135,8 @@ final class RuleSentences {
 
     private static void ownAtPowers() {
         Doc.says("own: for k 1 .. 6 the first M and the second one times p (0 and 0 if at doesn't tell them), else 0.");
-        QuotientSums q = Check.told("own f;at f 1 1 2;at f 2 3 4;at f 3 5 6;at f 4 7 8;at f 5 9 10;at f 6 11 12;own g;at g 6 5 0;");
+        QuotientSums q = Check.told("own f;at f 1 1 2;at f 2 3 4;at f 3 5 6;at f 4 7 8;at f 5 9 10;at f 6 11 12;"
+            + "own g;at g 6 5 0;");
         for (int k = 1; k <= 17; k++) {
             Doc.due("all told, power " + k, q.atPower(6, 7, k), k <= 6 ? 2 * k - 1 + 2 * k * 7 : 0);
             Doc.due("6 told, power " + k, q.atPower(7, 7, k), k == 6 ? 5 : 0);
@@ -218,7 +219,8 @@ final class RuleSentences {
             + " QUOTIENT, in the order of d.");
         QuotientSums q = new QuotientSums();
         // Around squares, and around d times (d and 1), the rows have their middles.
-        for (int x : new int[] {1, 2, 3, 4, 5, 6, 7, 8, 9, 10, 11, 12, 13, 899, 900, 901, 929, 930, 931, 960, 961, 962, 999, 1000}) {
+        int[] all = {1, 2, 3, 4, 5, 6, 7, 8, 9, 10, 11, 12, 13, 899, 900, 901, 929, 930, 931, 960, 961, 962, 999, 1000};
+        for (int x : all) {
             int i = 0;
             for (int d = 1; d <= x; d++) {
                 if (d == 1 || x / d != x / (d - 1)) {
@@ -293,6 +295,20 @@ final class RuleSentences {
         }
         Doc.due("from the seed on again", q.chance(5, 2, 1), drawn(5, 2, 200000));
         Doc.due("from the seed on again", q.chance(5, 2, 1), drawn(5, 2, 200000));
+        // The ends of what can be drawn, of the first DRAW and of the second one.
+        for (int drawn : new int[] {0, 1, 32766, 32767}) {
+            int once = ahead(drawn * 65536 + 4711);
+            Doc.due("first " + drawn, q.chance(once, 1, 1), drawn(once, 1, 200000));
+            int twice = ahead(once);
+            Doc.due("then " + drawn, q.chance(twice, 1, 1), drawn(twice, 1, 200000));
+        }
+    }
+
+    /** The number that comes ahead of one in the row of DRAWS. */
+    private static int ahead(int next) {
+        BigInteger all = BigInteger.ONE.shiftLeft(31);
+        return BigInteger.valueOf(next).subtract(BigInteger.valueOf(12345))
+            .multiply(BigInteger.valueOf(1103515245).modInverse(all)).mod(all).intValue();
     }
 
     /** What id is at the places drawn, together. */

@@ -131,7 +131,8 @@ final class SearchSentences {
         Doc.due("no rest", Check.told("modulus 2;").howMany(0, 1000, 1), 1000);
         Doc.says(NO_SUCH_ONES);
         BUSY.ends("howMany(0, x, 1)", 0, 50, -1, (q, x) -> q.howMany(0, x, 1), x -> x);
-        BUSY.ends("howMany(2, 50, r)", 0, 96, -1, (q, r) -> q.howMany(2, 50, r), r -> r == 0 ? 19 : r == 1 ? 14 : r == 96 ? 17 : 0);
+        BUSY.ends("howMany(2, 50, r)", 0, 96, -1, (q, r) -> q.howMany(2, 50, r),
+            r -> r == 0 ? 19 : r == 1 ? 14 : r == 96 ? 17 : 0);
         BUSY.ends("howMany(0, 0, r)", 0, 96, -1, (q, r) -> q.howMany(0, 0, r), r -> 0);
         BUSY.ends("howMany(f, 1, 1)", 0, 8, -1, (q, f) -> q.howMany(f, 1, 1), f -> 1);
         BUSY.ends("howMany(f, 0, 0)", 0, 8, -1, (q, f) -> q.howMany(f, 0, 0), f -> 0);
@@ -355,7 +356,8 @@ final class SearchSentences {
         for (int bound = 1; bound <= primes.length; bound++) {
             Doc.due("up to " + bound, Check.told("bound " + bound + ";").count(6), primes[bound - 1]);
         }
-        int[][] far = {{126, 113}, {127, 127}, {31468, 31397}, {31469, 31469}, {199998, 199967}, {199999, 199999}, {200000, 199999}};
+        int[][] far = {{126, 113}, {127, 127}, {31468, 31397}, {31469, 31469}, {199998, 199967}, {199999, 199999},
+            {200000, 199999}};
         for (int[] pair : far) {
             Doc.due("up to " + pair[0], Check.told("bound " + pair[0] + ";").count(6), pair[1]);
         }

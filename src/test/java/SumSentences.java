@@ -181,6 +181,14 @@ final class SumSentences {
         for (int x = 1; x <= 1000; x++) {
             Doc.due("quotients(" + x + ")", q.quotients(x), quotientsOf(x));
         }
+        // Where one more comes: at squares, and at d times (d and 1).
+        q.bound(200000);
+        for (int d = 1; d <= 446; d++) {
+            Doc.due("short of " + d + " times one more", q.quotients(d * d + d - 1), 2L * d - 1);
+            Doc.due("at " + d + " times one more", q.quotients(d * d + d), 2L * d);
+            Doc.due("short of the square behind " + d, q.quotients(d * d + 2 * d), 2L * d);
+            Doc.due("at the square behind " + d, q.quotients(d * d + 2 * d + 1), 2L * d + 1);
+        }
         Doc.says("NONE: no such x.");
         BUSY.ends("quotients(x)", 1, 50, -1, (o, x) -> o.quotients(x), SumSentences::quotientsOf);
         WIDE.ends("quotients(x)", 1, 200000, -1, (o, x) -> o.quotients(x), SumSentences::quotientsOf);

@@ -92,6 +92,7 @@ final class TextSentences {
         Doc.due("a text of no lines", q.text(0), 0);
         Twins.sameShown("a text of no lines", q, new QuotientSums());
         manyLines();
+        textsAhead();
     }
 
     private static void firstBytes(int n, int lines, int bound, int modulus) {
@@ -122,6 +123,31 @@ final class TextSentences {
         Check.feed(full, all);
         Doc.due("700 bytes", full.text(700), 1);
         Doc.due("to the last byte", full.count(2), 9);
+        Check.feed(full, " ".repeat(699) + "!");
+        Doc.due("a fault at the last byte", full.text(700), -1);
+        Doc.due("its place", full.fault(1), 699);
+        Check.feed(full, "!" + " ".repeat(699));
+        Doc.due("a fault at the first byte", full.text(700), -1);
+        Doc.due("its place", full.fault(1), 0);
+    }
+
+    /** Each text is read as if there had been none ahead, however many there were, with a FAULT or without. */
+    private static void textsAhead() {
+        String rich = "seed 9;bound 8;modulus 7;twist f phi 3;times g f f;own h;at h 1 5 5;over i f;point j f id;own k;at k 6 7 7;";
+        String[] later = {"", "own a;own b;own c;own d;own e;own f;", "over f one;twist g tau 4;", "times f one one;own g;point h g g;"};
+        for (String fault : new String[] {"", "!"}) {
+            for (String text : later) {
+                for (int between = 0; between < 3; between++) {
+                    QuotientSums q = new QuotientSums();
+                    Doc.due("a rich text" + fault, Check.tell(q, rich + fault), fault.isEmpty() ? 11 : -1);
+                    for (int i = 0; i < between; i++) {
+                        Doc.due("a text of no lines", q.text(0), 0);
+                    }
+                    Check.tell(q, text);
+                    Twins.sameShown("'" + text + "' behind others", q, Check.told(text));
+                }
+            }
+        }
     }
 
     private static void textWithFault() {
@@ -253,8 +279,10 @@ final class TextSentences {
         Twins.told("").ends("function(f, 3)", 0, 5, Twins.THROWS_INDEX, (q, f) -> Twins.function(q, f, 3), f -> f % 2);
         Twins.told("own f;").ends("function(f, 1)", 0, 6, Twins.THROWS_INDEX, (q, f) -> Twins.function(q, f, 1), f -> -2);
         Doc.says("NoSuchElementException: no such what.");
-        twins.ends("function(9, what)", 0, 4, Twins.THROWS_ELEMENT, (q, what) -> Twins.function(q, 9, what), what -> due[9][what]);
-        twins.ends("function(0, what)", 0, 4, Twins.THROWS_ELEMENT, (q, what) -> Twins.function(q, 0, what), what -> due[0][what]);
+        for (int f : new int[] {0, 9, 11}) {
+            twins.ends("function(" + f + ", what)", 0, 4, Twins.THROWS_ELEMENT, (q, what) -> Twins.function(q, f, what),
+                what -> due[f][what]);
+        }
     }
 
     private static void told() {

@@ -149,6 +149,12 @@ final class Twins {
         for (String name : new String[] {"one", "id", "mu", "phi", "tau", "sigma", "f", "g", "h", "k"}) {
             all.add((long) q.named(Check.letters(name)));
         }
+        for (int f = 8; f < 12; f++) {
+            for (int power = 1; power < 7; power++) {
+                all.add((long) q.told(f, power, false));
+                all.add((long) q.told(f, power, true));
+            }
+        }
     }
 
     private static void values(QuotientSums q, List<Long> all) {
