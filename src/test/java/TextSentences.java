@@ -154,28 +154,17 @@ final class TextSentences {
         Doc.says("NONE with a FAULT, all else stays;");
         for (String text : new String[] {"bound 7;own x;bound 8;", "bound 7;modulus 9;seed 3;own x;at x 1 1 1;!", "own x",
             "over x f;", "at f 1 0 0;", "own a;own b;own c;own d;own e;own f;own g;"}) {
-            QuotientSums one = Twins.makeBusy();
-            QuotientSums other = Twins.makeBusy();
-            one.text(20);
-            other.text(20);
-            busyAgain(one);
-            busyAgain(other);
+            QuotientSums one = Twins.makeChanged();
+            QuotientSums other = Twins.makeChanged();
+            // Sums asked for ahead must not be lost or mixed up either.
+            Doc.due("a sum ahead", one.sum(6, 40), other.sum(6, 40));
+            Doc.due("a sum ahead", one.sum(8, 40), other.sum(8, 40));
             Doc.due("'" + text + "'", Check.tell(one, text), -1);
             Doc.due("the tape behind '" + text + "'", one.count(5), 0);
             // The other one gets the same FAULT and place by a text of blanks and one sign alone.
             sameFault(other, one.fault(0), one.fault(1));
             Twins.sameShown("'" + text + "'", one, other);
         }
-    }
-
-    private static void busyAgain(QuotientSums q) {
-        Check.tell(q, "seed 77;own f;at f 1 3 4;own g;at g 6 -5 9;times h f one;bound 60;modulus 101;");
-        q.keep();
-        q.bound(50);
-        q.modulus(97);
-        q.set(6, 2, 5, 6);
-        q.sum(6, 40);
-        q.sum(8, 40);
     }
 
     private static void sameFault(QuotientSums q, int fault, int place) {

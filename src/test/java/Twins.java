@@ -38,13 +38,19 @@ final class Twins {
     }
 
     static QuotientSums makeBusy() {
+        QuotientSums q = makeChanged();
+        Check.tell(q, "own k;bound 0;");
+        Check.feed(q, "own k;bound 9;");
+        return q;
+    }
+
+    /** As busy, but without a FAULT and with an empty TAPE. */
+    static QuotientSums makeChanged() {
         QuotientSums q = Check.told("seed 77;own f;at f 1 3 4;own g;at g 6 -5 9;times h f one;bound 60;modulus 101;");
         q.keep();
         q.bound(50);
         q.modulus(97);
         q.set(6, 2, 5, 6);
-        Check.tell(q, "own k;bound 0;");
-        Check.feed(q, "own k;bound 9;");
         return q;
     }
 
@@ -132,11 +138,14 @@ final class Twins {
         }
         all.add((long) q.fault(0));
         all.add((long) q.fault(1));
-        for (int f = 6; f < 8; f++) {
-            for (int power = 1; power < 7; power++) {
-                all.add((long) q.told(f, power, false));
-                all.add((long) q.told(f, power, true));
-            }
+        told(q, 6, all);
+        told(q, 7, all);
+    }
+
+    private static void told(QuotientSums q, int f, List<Long> all) {
+        for (int power = 1; power < 7; power++) {
+            all.add((long) q.told(f, power, false));
+            all.add((long) q.told(f, power, true));
         }
     }
 
@@ -150,10 +159,7 @@ final class Twins {
             all.add((long) q.named(Check.letters(name)));
         }
         for (int f = 8; f < 12; f++) {
-            for (int power = 1; power < 7; power++) {
-                all.add((long) q.told(f, power, false));
-                all.add((long) q.told(f, power, true));
-            }
+            told(q, f, all);
         }
     }
 
