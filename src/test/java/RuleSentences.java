@@ -164,8 +164,8 @@ final class RuleSentences {
 
     private static void overAtPowers() {
         Doc.says("over: such that times of it and the FUNCTION it is told of would be 0 at each p to the k, k 1 on.");
-        QuotientSums q = Check.told(EACH_KIND);
         for (int p : new int[] {2, 3, 200003}) {
+            QuotientSums q = Check.told(EACH_KIND);
             for (int k = 1; k <= 17; k++) {
                 long total = 0;
                 for (int i = 0; i <= k; i++) {
@@ -174,6 +174,7 @@ final class RuleSentences {
                 Doc.due(p + " to the " + k, total, 0);
             }
         }
+        QuotientSums q = Check.told(EACH_KIND);
         Doc.due("power 1", q.atPower(8, 3, 1), M - 15);
         Doc.due("power 2", q.atPower(8, 3, 2), 15 * 15 - 8);
     }
@@ -204,23 +205,30 @@ final class RuleSentences {
 
     private static void sums() {
         Doc.says("SUM of a FUNCTION up to x: its VALUES at 1 .. x, together (0 for x 0).");
-        QuotientSums q = Check.told(EACH_KIND + "bound 20;");
-        for (int f = 0; f < 12; f++) {
-            long total = 0;
-            for (int x = 0; x <= 20; x++) {
-                total += x == 0 ? 0 : q.value(f, x);
-                Doc.due("of " + f + " up to " + x, q.sum(f, x), total % M);
+        for (int m : new int[] {2, 3, 97, M}) {
+            for (int f = 0; f < 12; f++) {
+                sumsOf(f, m);
             }
+        }
+    }
+
+    private static void sumsOf(int f, int m) {
+        QuotientSums q = Check.told(EACH_KIND);
+        q.modulus(m);
+        long total = 0;
+        for (int x = 0; x <= 200; x++) {
+            total += x == 0 ? 0 : q.value(f, x);
+            Doc.due("of " + f + " up to " + x + " by " + m, q.sum(f, x), total % m);
         }
     }
 
     private static void quotientsAndBlocks() {
         Doc.says("QUOTIENTS of x: x by d, rounded down, for d 1 .. x, each once, the greatest first. BLOCK: all d of x with one"
             + " QUOTIENT, in the order of d.");
-        QuotientSums q = new QuotientSums();
         // Around squares, and around d times (d and 1), the rows have their middles.
         int[] all = {1, 2, 3, 4, 5, 6, 7, 8, 9, 10, 11, 12, 13, 899, 900, 901, 929, 930, 931, 960, 961, 962, 999, 1000};
         for (int x : all) {
+            QuotientSums q = new QuotientSums();
             int i = 0;
             for (int d = 1; d <= x; d++) {
                 if (d == 1 || x / d != x / (d - 1)) {
@@ -252,7 +260,7 @@ final class RuleSentences {
         Doc.says("SMOOTH by y: no prime of n is above y; ROUGH by y: none is y or less (1 is both).");
         sort("SMOOTH by 3", new int[] {1, 2, 3, 4, 6, 8, 9, 12, 16, 18, 24, 27, 32, 36, 48}, (o, x) -> o.smooth(0, x, 3));
         sort("SMOOTH by 4", new int[] {1, 2, 3, 4, 6, 8, 9, 12, 16, 18, 24, 27, 32, 36, 48}, (o, x) -> o.smooth(0, x, 4));
-        sort("SMOOTH by 2", new int[] {1, 2, 4, 8, 16, 32, 64, 128, 256, 512}, (o, x) -> o.smooth(0, x, 2));
+        sort("SMOOTH by 2", new int[] {1, 2, 4, 8, 16, 32, 64, 128, 256}, (o, x) -> o.smooth(0, x, 2));
         sort("SMOOTH by 1", new int[] {1}, (o, x) -> o.smooth(0, x, 1));
         sort("ROUGH by 3", new int[] {1, 5, 7, 11, 13, 17, 19, 23, 25, 29, 31, 35}, (o, x) -> o.rough(0, x, 3));
         sort("ROUGH by 4", new int[] {1, 5, 7, 11, 13, 17, 19, 23, 25, 29, 31, 35}, (o, x) -> o.rough(0, x, 4));

@@ -178,12 +178,12 @@ final class SumSentences {
         Doc.open("Promise 16:");
         Doc.says("How many QUOTIENTS x 1 .. BOUND has;");
         QuotientSums q = new QuotientSums();
-        for (int x = 1; x <= 1000; x++) {
+        for (int x = 1; x <= 500; x++) {
             Doc.due("quotients(" + x + ")", q.quotients(x), quotientsOf(x));
         }
         // Where one more comes: at squares, and at d times (d and 1).
-        q.bound(200000);
         for (int d = 1; d <= 446; d++) {
+            q = d % 100 == 1 ? WIDE.one() : q;
             Doc.due("short of " + d + " times one more", q.quotients(d * d + d - 1), 2L * d - 1);
             Doc.due("at " + d + " times one more", q.quotients(d * d + d), 2L * d);
             Doc.due("short of the square behind " + d, q.quotients(d * d + 2 * d), 2L * d);
@@ -303,11 +303,13 @@ final class SumSentences {
     }
 
     private static long commonTogether(int f, int x) {
-        QuotientSums q = BUSY.one();
         long total = 0;
-        for (int i = 1; i <= x; i++) {
-            for (int j = 1; j <= x; j++) {
-                total += q.value(f, Model.gcd(i, j));
+        for (int d = 1; d <= x; d++) {
+            long at = busyValue(f, d);
+            for (int i = 1; i <= x; i++) {
+                for (int j = 1; j <= x; j++) {
+                    total += Model.gcd(i, j) == d ? at : 0;
+                }
             }
         }
         return total % 97;
@@ -318,7 +320,7 @@ final class SumSentences {
         Doc.says("How many couples i, j 1 .. x, x 0 .. BOUND, have no common divisor but 1;");
         QuotientSums q = new QuotientSums();
         long many = 0;
-        for (int x = 0; x <= 1000; x++) {
+        for (int x = 0; x <= 500; x++) {
             many += x == 0 ? 0 : x == 1 ? 1 : 2 * phiOf(x);
             Doc.due("coprime(" + x + ")", q.coprime(x), many);
         }
@@ -350,6 +352,7 @@ final class SumSentences {
         int free = 0;
         int full = 0;
         for (int x = 0; x <= 1000; x++) {
+            q = x % 200 == 0 ? new QuotientSums() : q;
             free += x > 0 && Model.free(x) ? 1 : 0;
             full += x > 0 && Model.fullNumber(x) ? 1 : 0;
             Doc.due("many(0, " + x + ")", q.many(0, x), free);
