@@ -36,7 +36,6 @@ public final class QuotientSums {
     private static final int[] KNOWN_DEGREES = {0, 1, 0, 1, 0, 1};
 
     private Plan now = new Plan();
-    private Plan draft = new Plan();
     private final Reader reader = new Reader();
     private final Changes changes = new Changes();
     private final Image image = new Image();
@@ -64,12 +63,10 @@ public final class QuotientSums {
         if (n < 0 || n > reader.tape.fed) {
             return ABSENT;
         }
-        if (!reader.read(n, draft)) {
+        if (!reader.read(n)) {
             return NONE;
         }
-        Plan old = now;
-        now = draft;
-        draft = old;
+        now = reader.swap(now);
         image.kept = false;
         changes.forget();
         rows.forget();
@@ -901,7 +898,7 @@ public final class QuotientSums {
         }
     }
 
-    /** Reads a TEXT into a plan; the first FAULT along it ends the reading. */
+    /** Reads a TEXT into a plan of its own; the first FAULT along it ends the reading. */
     private static final class Reader {
         private static final int NO_TOKEN = 1;
         private static final int TOO_GREAT = 2;
@@ -912,14 +909,13 @@ public final class QuotientSums {
         int lines;
         int faulty;
         int place = NONE;
-        private Plan plan;
+        private Plan plan = new Plan();
         private int token;
         private int toldOnce;
 
         /** The plan is of use only if this answers true. */
-        boolean read(int n, Plan into) {
+        boolean read(int n) {
             tape.cut(n);
-            plan = into;
             plan.reset();
             token = 0;
             toldOnce = 0;
@@ -933,6 +929,13 @@ public final class QuotientSums {
                 }
             }
             return faulty == 0;
+        }
+
+        /** The plan that was read, for one that the next TEXT may be read into. */
+        Plan swap(Plan spare) {
+            Plan ready = plan;
+            plan = spare;
+            return ready;
         }
 
         // ---- what must come next ----

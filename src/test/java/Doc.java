@@ -8,6 +8,8 @@ import java.util.Map;
 final class Doc {
     private static final Path FILE = Path.of("../shared/DOC.md");
     private static final int PROMISES = 37;
+    /** The sections beside the promises; FaceTest has the public face. */
+    private static final String[] AROUND = {"What it is", "Terms", "Not promised"};
     private static final Map<String, Doc> PARTS = new LinkedHashMap<>();
     private static Doc now;
     private static String words = "";
@@ -66,7 +68,10 @@ final class Doc {
 
     /** Each section that binds the class must have been said to its last word. */
     static void finish() {
-        PARTS.get("Terms").wholeSaid();
+        for (String title : AROUND) {
+            open(title);
+            now.wholeSaid();
+        }
         for (int i = 1; i <= PROMISES; i++) {
             open("Promise " + i + ":");
             now.wholeSaid();

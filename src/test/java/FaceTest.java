@@ -36,7 +36,12 @@ public final class FaceTest {
         same("methods", methods(), due);
         Check.due("final", Modifier.isFinal(QuotientSums.class.getModifiers()), true);
         fieldsAndConstructors();
+        for (Class<?> inside : QuotientSums.class.getDeclaredClasses()) {
+            fewFields(inside);
+        }
+        fewFields(QuotientSums.class);
         source();
+        shortMethods();
         Check.finish("FaceTest");
     }
 
@@ -95,6 +100,40 @@ public final class FaceTest {
         Constructor<?>[] all = QuotientSums.class.getDeclaredConstructors();
         Check.due("constructors", all.length, 1);
         Check.due("open constructor", Modifier.isPublic(all[0].getModifiers()) && all[0].getParameterCount() == 0, true);
+    }
+
+    /** Rules 5 and 11: what is static is final, and the rest is at most twenty. */
+    private static void fewFields(Class<?> where) {
+        int held = 0;
+        for (Field field : where.getDeclaredFields()) {
+            boolean isStatic = Modifier.isStatic(field.getModifiers());
+            held += isStatic ? 0 : 1;
+            Check.due(field + " changes", isStatic && !Modifier.isFinal(field.getModifiers()), false);
+        }
+        Check.due(where + " has few fields", held <= 20, true);
+    }
+
+    /** Rule 11, told by how far a method's braces stand in: 4 in the class, 8 in the classes inside. */
+    private static void shortMethods() throws IOException {
+        String begun = "";
+        int from = 0;
+        int methods = 0;
+        int at = 0;
+        for (String line : Files.readAllLines(SOURCE)) {
+            at++;
+            String start = line.substring(0, line.length() - line.stripLeading().length());
+            boolean deep = start.length() == 4 || start.length() == 8;
+            if (deep && line.endsWith(") {") && line.matches(" +(public |private )?(static )?[\\w\\[\\]]+( \\w+)?\\(.*")
+                && !line.matches(" +(if|for|while|switch) .*")) {
+                begun = start;
+                from = at;
+                methods++;
+            } else if (from > 0 && line.equals(begun + "}")) {
+                Check.due("the method at line " + from + " is short", at - from < 60, true);
+                from = 0;
+            }
+        }
+        Check.due("methods have been found", methods >= 100, true);
     }
 
     private static void source() throws IOException {

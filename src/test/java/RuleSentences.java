@@ -1,6 +1,6 @@
 import java.math.BigInteger;
 
-/** The paragraphs marked 1 to 4: VALUES, SUMS, sorts of numbers, DRAWS, what can be undone, and which answer goes first. */
+/** The paragraphs marked 2 to 4: VALUES, SUMS, sorts of numbers, DRAWS, what can be undone, and which answer goes first. */
 final class RuleSentences {
     private static final int M = 1000003;
     /** A known one, an own one, and one of each way to make one: FUNCTIONS 0, 6 .. 11. */
@@ -11,8 +11,6 @@ final class RuleSentences {
     }
 
     static void run() {
-        Doc.open("What it is");
-        lastOfManyCalls();
         Doc.open("Terms");
         rests();
         oneAtOne();
@@ -33,17 +31,6 @@ final class RuleSentences {
         noneFirst();
         exceptionsFirst();
         refusedCalls();
-    }
-
-    // ---- 1 ----
-
-    private static void lastOfManyCalls() {
-        Doc.says("An object is used for at most 512 calls after it has been made; what later calls answer is free.");
-        QuotientSums q = new QuotientSums();
-        for (int call = 1; call <= 512; call += 2) {
-            Doc.due("call " + call, q.bound(call), call == 1 ? 1000 : call - 2);
-            Doc.due("call " + (call + 1), q.sum(0, call), call);
-        }
     }
 
     // ---- 2 ----

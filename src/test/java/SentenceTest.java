@@ -1,12 +1,13 @@
 import java.io.IOException;
 
-/** Each sentence of the document that names a boundary, with a test of its own; none may be without one. */
+/** Each sentence of the document, with a test of its own at its boundaries; none may be without one. */
 public final class SentenceTest {
     private SentenceTest() {
     }
 
     public static void main(String[] args) throws IOException {
         Doc.load();
+        WholeSentences.run();
         TermsSentences.run();
         RuleSentences.run();
         TextSentences.run();
