@@ -186,6 +186,10 @@ final class SearchSentences {
         whole("32 times 32", "modulus 2;own u;at u 5 1 0;times f u u;", 0);
         whole("7 times 49 is beyond, by 2, 3 and 5 it is 0",
             "own u;at u 3 -2 1;own v;at v 3 -3 1;own w;at w 3 -5 1;point x u v;point f x w;", 1);
+        partsFirstAt(37, "twist a tau 4;own w;at w 2 1 3;twist b mu 3;times c b a;point d c w;point f phi d;", 0);
+        partsFirstAt(41, "own u;own w;own x;at u 1 1 3;at u 2 0 2;at w 1 1 1;at w 2 1 2;at w 3 1 2;at w 4 0 1;"
+            + "at w 5 0 1;at x 1 3 1;at x 2 3 4;at x 3 1 3;at x 4 1 2;at x 5 4 3;at x 6 1 0;"
+            + "twist t u 4;point v w x;times f t v;", 1);
         whole("by the modulus", "modulus 3;own f;at f 2 9 3;", 1);
         whole("by another modulus", "modulus 4;own f;at f 2 9 3;", 0);
         Doc.says("NONE: no such FUNCTION.");
@@ -205,6 +209,33 @@ final class SearchSentences {
     private static void whole(String what, String text, int want) {
         QuotientSums q = Check.told(text);
         Doc.due(what, q.isWhole(q.named(Check.letters("f"))), want);
+    }
+
+    /** The FUNCTION named f multiplies wherever both are less than p, and not at p times p: it tells 40 from less or more. */
+    private static void partsFirstAt(int p, String text, int want) {
+        int[] at = valuesBy5(text, p * p);
+        long wrong = 0;
+        for (int m = 1; m < p; m++) {
+            for (int n = 1; n < p; n++) {
+                wrong += at[m * n] == at[m] * at[n] % 5 ? 0 : 1;
+            }
+        }
+        Doc.due("where it does not multiply ahead of " + p, wrong, 0);
+        Doc.due("whether it multiplies at " + p, at[p * p] == at[p] * at[p] % 5, false);
+        whole("parts first at " + p + " times " + p, "modulus 5;" + text, want);
+    }
+
+    /** A new object now and then, as one is meant for 512 calls. */
+    private static int[] valuesBy5(String text, int upTo) {
+        int[] values = new int[upTo + 1];
+        QuotientSums q = null;
+        for (int n = 1; n <= upTo; n++) {
+            if (n % 400 == 1) {
+                q = Check.told("modulus 5;bound " + upTo + ";" + text);
+            }
+            values[n] = q.value(11, n);
+        }
+        return values;
     }
 
     private static void chance() {

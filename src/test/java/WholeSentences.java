@@ -80,6 +80,7 @@ final class WholeSentences {
         QuotientSums q = Check.told(TOLD);
         int i = 0;
         for (int d = 1; d <= GREAT; i++) {
+            q = i % 100 == 0 ? Check.told(TOLD) : q;
             Doc.due("quotient " + i, q.quotient(GREAT, i), GREAT / d);
             Doc.due("first of the block " + i, q.block(GREAT, i, false), d);
             int last = GREAT / (GREAT / d);
